@@ -31,7 +31,6 @@ public final class BagsRiver {
     private static final int IMAGES = 2;
 
     private final Tape tape;
-    private final Tokens tokens;
     private final StreetReader streetReader;
     private Street street;
     private Street nextStreet;
@@ -52,8 +51,7 @@ public final class BagsRiver {
 
     public BagsRiver() {
         tape = new Tape();
-        tokens = new Tokens(tape);
-        streetReader = new StreetReader(tokens);
+        streetReader = new StreetReader(tape);
         street = new Street();
         nextStreet = new Street();
         state = new State();
@@ -84,12 +82,12 @@ public final class BagsRiver {
     }
 
     public int street() {
-        tokens.begin(STREET_BYTES);
+        tape.begin(STREET_BYTES);
         int lines = streetReader.read(nextStreet);
         tape.length = 0;
-        faultKind = tokens.faultKind;
+        faultKind = tape.faultKind;
         if (faultKind != 0) {
-            return -1 - tokens.faultPlace;
+            return -1 - tape.faultPlace;
         }
         Street read = nextStreet;
         nextStreet = street;
@@ -478,12 +476,12 @@ public final class BagsRiver {
         if (!isWithin(lives, 0, 1)) {
             return OTHER_LIVES;
         }
-        tokens.begin(BOOK_BYTES);
-        book.read(tokens, street);
+        tape.begin(BOOK_BYTES);
+        book.read(tape, street);
         tape.length = 0;
-        faultKind = tokens.faultKind;
+        faultKind = tape.faultKind;
         if (faultKind != 0) {
-            return -2 - tokens.faultPlace;
+            return -2 - tape.faultPlace;
         }
         trial.copyFrom(state);
         book.judge(street, trial);
@@ -499,12 +497,12 @@ public final class BagsRiver {
     }
 
     public int sentence() {
-        tokens.begin(SENTENCE_BYTES);
-        nextSentence.read(tokens, street);
+        tape.begin(SENTENCE_BYTES);
+        nextSentence.read(tape, street);
         tape.length = 0;
-        faultKind = tokens.faultKind;
+        faultKind = tape.faultKind;
         if (faultKind != 0) {
-            return -1 - tokens.faultPlace;
+            return -1 - tape.faultPlace;
         }
         Sentence read = nextSentence;
         nextSentence = sentence;
@@ -596,41 +594,6 @@ public final class BagsRiver {
         return x;
     }
 
-    /** The bytes that were fed and not yet read. */
-    private static final class Tape {
-        final int[] bytes = new int[940];
-        int length;
-
-        int append(int a, int b, int c, int d, int e) {
-            if (length + 20 > bytes.length) {
-                return NONE;
-            }
-            put(a);
-            put(b);
-            put(c);
-            put(d);
-            put(e);
-            return length;
-        }
-
-        private void put(int four) {
-            for (int shift = 24; shift >= 0; shift -= 8) {
-                if (length < bytes.length) {
-                    bytes[length] = four >>> shift & 255;
-                    length++;
-                }
-            }
-        }
-
-        boolean cutTo(int n) {
-            if (n < 0 || n > length) {
-                return false;
-            }
-            length = n;
-            return true;
-        }
-    }
-
     /** The WORDS that a text may need, none of which is a NAME. */
     private enum Word {
         WALL("wall"), HOUSE("house"), OUTSIDE("outside"), DRAIN("drain"), CREST("crest"), GAUGE("gauge"),
@@ -667,15 +630,16 @@ public final class BagsRiver {
         }
     }
 
-    /** The TOKENS of the tape, one at a time, and the first FAULT that a reader finds. */
-    private static final class Tokens {
+    /** The bytes that were fed and not yet read; their TOKENS, one at a time; the first FAULT that a reader finds. */
+    private static final class Tape {
         static final int AT_END = 0;
         static final int NO_TOKEN = 1;
         static final int A_WORD = 2;
         static final int A_NUMBER = 3;
         static final int A_SIGN = 4;
 
-        private final Tape tape;
+        final int[] bytes = new int[940];
+        int length;
         private int limit;
         private int at;
         private int start;
@@ -686,8 +650,33 @@ public final class BagsRiver {
         int faultKind;
         int faultPlace;
 
-        Tokens(Tape tape) {
-            this.tape = tape;
+        int append(int a, int b, int c, int d, int e) {
+            if (length + 20 > bytes.length) {
+                return NONE;
+            }
+            put(a);
+            put(b);
+            put(c);
+            put(d);
+            put(e);
+            return length;
+        }
+
+        private void put(int four) {
+            for (int shift = 24; shift >= 0; shift -= 8) {
+                if (length < bytes.length) {
+                    bytes[length] = four >>> shift & 255;
+                    length++;
+                }
+            }
+        }
+
+        boolean cutTo(int n) {
+            if (n < 0 || n > length) {
+                return false;
+            }
+            length = n;
+            return true;
         }
 
         void begin(int mostBytes) {
@@ -702,20 +691,20 @@ public final class BagsRiver {
             word = null;
             letters = 0;
             value = 0;
-            while (at < tape.length && isBlank(tape.bytes[at])) {
+            while (at < length && isBlank(bytes[at])) {
                 at++;
             }
             start = at;
-            if (tape.length > limit && at >= limit) {
+            if (length > limit && at >= limit) {
                 kind = NO_TOKEN;
                 start = limit;
-            } else if (at >= tape.length) {
+            } else if (at >= length) {
                 kind = AT_END;
-                start = tape.length;
-            } else if (isLetter(tape.bytes[at]) || isDigit(tape.bytes[at])) {
+                start = length;
+            } else if (isLetter(bytes[at]) || isDigit(bytes[at])) {
                 readRun();
             } else {
-                value = tape.bytes[at];
+                value = bytes[at];
                 kind = isSign(value) ? A_SIGN : NO_TOKEN;
                 at++;
             }
@@ -723,8 +712,8 @@ public final class BagsRiver {
 
         private void readRun() {
             int digits = 0;
-            while (at < tape.length && (isLetter(tape.bytes[at]) || isDigit(tape.bytes[at]))) {
-                int c = tape.bytes[at];
+            while (at < length && (isLetter(bytes[at]) || isDigit(bytes[at]))) {
+                int c = bytes[at];
                 if (isDigit(c)) {
                     digits++;
                     value = value * 10 + (c - '0');
@@ -804,8 +793,8 @@ public final class BagsRiver {
             return number;
         }
 
-        /** The number of the thing that is NAMED next; NONE: a FAULT. */
-        int takeNamed(long[] names, int count) {
+        /** The number of the thing that is NAMED next, and stays so; NONE: a FAULT. */
+        int seeNamed(long[] names, int count) {
             if (!atName()) {
                 fail(CANT_COME);
                 return NONE;
@@ -813,9 +802,7 @@ public final class BagsRiver {
             int found = Street.indexOf(names, count, letters);
             if (found == NONE) {
                 fail(BAD_NAME);
-                return NONE;
             }
-            next();
             return found;
         }
     }
@@ -1047,14 +1034,14 @@ public final class BagsRiver {
     private static final class StreetReader {
         private static final int FAULTY = -2;
 
-        private final Tokens tokens;
+        private final Tape tape;
         private Street into;
         private boolean peopleTold;
         private boolean sandTold;
         private boolean rateTold;
 
-        StreetReader(Tokens tokens) {
-            this.tokens = tokens;
+        StreetReader(Tape tape) {
+            this.tape = tape;
         }
 
         /** How many LINES; the TOKENS hold the FAULT, if there is one. */
@@ -1066,17 +1053,17 @@ public final class BagsRiver {
             rateTold = false;
             int lines = 0;
             boolean fine = true;
-            while (fine && tokens.kind != Tokens.AT_END && lines < STREET_BYTES) {
-                fine = readLine() && tokens.takeSign(';');
+            while (fine && tape.kind != Tape.AT_END && lines < STREET_BYTES) {
+                fine = readLine() && tape.takeSign(';');
                 lines++;
             }
             return lines;
         }
 
         private boolean readLine() {
-            Word first = tokens.word;
+            Word first = tape.word;
             if (first == null) {
-                return tokens.fail(CANT_COME);
+                return tape.fail(CANT_COME);
             }
             switch (first) {
                 case WALL: return readWall();
@@ -1087,133 +1074,134 @@ public final class BagsRiver {
                 case PEOPLE: return readPeople();
                 case SAND: return readSand();
                 case RATE: return readRate();
-                default: return tokens.fail(CANT_COME);
+                default: return tape.fail(CANT_COME);
             }
         }
 
         private boolean readWall() {
             if (into.walls >= MOST_WALLS) {
-                return tokens.fail(TOO_MANY);
+                return tape.fail(TOO_MANY);
             }
-            tokens.next();
-            long name = tokens.letters;
+            tape.next();
+            long name = tape.letters;
             if (!takeNewName()) {
                 return false;
             }
-            int wide = tokens.takeNumber(1, 20);
+            int wide = tape.takeNumber(1, 20);
             into.addWall(name, wide);
             return wide != NONE;
         }
 
         private boolean readHouse() {
             if (into.houses >= MOST_HOUSES) {
-                return tokens.fail(TOO_MANY);
+                return tape.fail(TOO_MANY);
             }
-            tokens.next();
-            long name = tokens.letters;
+            tape.next();
+            long name = tape.letters;
             if (!takeNewName()) {
                 return false;
             }
-            int wall = takeWallOrOutside();
+            int wall = seeWallOrOutside();
             if (wall == FAULTY) {
                 return false;
             }
-            int worth = tokens.takeNumber(1, 99);
+            tape.next();
+            int worth = tape.takeNumber(1, 99);
             if (worth == NONE) {
                 return false;
             }
-            int floor = tokens.takeNumber(0, MOST_INCH);
+            int floor = tape.takeNumber(0, MOST_INCH);
             into.addHouse(name, wall, worth, floor);
             return floor != NONE;
         }
 
-        private int takeWallOrOutside() {
-            if (tokens.word == Word.OUTSIDE) {
-                tokens.next();
+        private int seeWallOrOutside() {
+            if (tape.word == Word.OUTSIDE) {
                 return NONE;
             }
-            int wall = tokens.takeNamed(into.wallNames, into.walls);
+            int wall = tape.seeNamed(into.wallNames, into.walls);
             return wall == NONE ? FAULTY : wall;
         }
 
         private boolean readDrain() {
             if (into.drains >= MOST_DRAINS) {
-                return tokens.fail(TOO_MANY);
+                return tape.fail(TOO_MANY);
             }
-            tokens.next();
-            long name = tokens.letters;
+            tape.next();
+            long name = tape.letters;
             if (!takeNewName()) {
                 return false;
             }
-            int wall = tokens.takeNamed(into.wallNames, into.walls);
+            int wall = tape.seeNamed(into.wallNames, into.walls);
             if (wall == NONE) {
                 return false;
             }
-            int inch = tokens.takeNumber(0, MOST_INCH);
+            tape.next();
+            int inch = tape.takeNumber(0, MOST_INCH);
             if (inch == NONE) {
                 return false;
             }
-            int bags = tokens.takeNumber(1, 40);
+            int bags = tape.takeNumber(1, 40);
             into.addDrain(name, wall, inch, bags);
             return bags != NONE;
         }
 
         private boolean takeNewName() {
-            if (!tokens.atName()) {
-                return tokens.fail(CANT_COME);
+            if (!tape.atName()) {
+                return tape.fail(CANT_COME);
             }
-            if (into.knows(tokens.letters)) {
-                return tokens.fail(BAD_NAME);
+            if (into.knows(tape.letters)) {
+                return tape.fail(BAD_NAME);
             }
-            tokens.next();
+            tape.next();
             return true;
         }
 
         private boolean readPair(Pairs pairs, int mostKey, int least, int most) {
             if (pairs.isFull()) {
-                return tokens.fail(TOO_MANY);
+                return tape.fail(TOO_MANY);
             }
-            tokens.next();
-            int key = tokens.seeNumber(0, mostKey);
+            tape.next();
+            int key = tape.seeNumber(0, mostKey);
             if (key == NONE) {
                 return false;
             }
             if (pairs.has(key)) {
-                return tokens.fail(BAD_NAME);
+                return tape.fail(BAD_NAME);
             }
-            tokens.next();
-            int value = tokens.takeNumber(least, most);
+            tape.next();
+            int value = tape.takeNumber(least, most);
             pairs.add(key, value);
             return value != NONE;
         }
 
         private boolean readPeople() {
             if (peopleTold) {
-                return tokens.fail(BAD_NAME);
+                return tape.fail(BAD_NAME);
             }
             peopleTold = true;
-            tokens.next();
-            into.people = tokens.takeNumber(1, MOST_PEOPLE);
+            tape.next();
+            into.people = tape.takeNumber(1, MOST_PEOPLE);
             return into.people != NONE;
         }
 
         private boolean readSand() {
             if (sandTold) {
-                return tokens.fail(BAD_NAME);
+                return tape.fail(BAD_NAME);
             }
             sandTold = true;
-            tokens.next();
-            into.sand = tokens.takeNumber(0, MOST_BAGS);
+            tape.next();
+            into.sand = tape.takeNumber(0, MOST_BAGS);
             return into.sand != NONE;
         }
 
         private boolean readRate() {
             if (rateTold) {
-                return tokens.fail(BAD_NAME);
+                return tape.fail(BAD_NAME);
             }
             rateTold = true;
-            tokens.next();
-            into.rate = tokens.takeNumber(1, 20);
+            tape.next();
+            into.rate = tape.takeNumber(1, 20);
             return into.rate != NONE;
         }
     }
@@ -1310,9 +1298,9 @@ public final class BagsRiver {
 
         int leakingDrains(Street street, int w, int inches) {
             int bits = 0;
-            for (int d = 0; d < street.drains; d++) {
+            for (int d = 0; d < street.drains && d < MOST_DRAINS; d++) {
                 boolean comesUp = street.drainWall[d] == w && street.drainInch[d] <= inches;
-                bits |= comesUp && !isStopped(street, d) ? 1 << d : 0;
+                bits |= comesUp && drainBags[d] < street.drainTakes[d] ? 1 << d : 0;
             }
             return bits;
         }
@@ -1489,55 +1477,64 @@ public final class BagsRiver {
         private int hourThen;
         private int savedThen;
 
-        void read(Tokens tokens, Street street) {
+        void read(Tape tape, Street street) {
             lines = 0;
             boolean fine = true;
-            while (fine && tokens.kind != Tokens.AT_END && lines <= MOST_LINES) {
-                fine = readLine(tokens, street) && tokens.takeSign(';');
+            while (fine && tape.kind != Tape.AT_END && lines <= MOST_LINES) {
+                fine = readLine(tape, street) && tape.takeSign(';');
             }
         }
 
-        private boolean readLine(Tokens tokens, Street street) {
-            Word verb = tokens.word;
+        private boolean readLine(Tape tape, Street street) {
+            Word verb = tape.word;
             if (verb != Word.POST && verb != Word.QUIT && verb != Word.UP && verb != Word.HOUR) {
-                return tokens.fail(CANT_COME);
+                return tape.fail(CANT_COME);
             }
             if (lines >= MOST_LINES) {
-                return tokens.fail(TOO_MANY);
+                return tape.fail(TOO_MANY);
             }
-            tokens.next();
+            tape.next();
             verbs[lines] = verb;
-            boolean fine = verb == Word.POST ? readPost(tokens, street) : readPlace(tokens, street, verb);
+            boolean fine = verb == Word.POST ? readPost(tape, street) : readPlace(tape, street, verb);
             lines++;
             return fine;
         }
 
-        private boolean readPost(Tokens tokens, Street street) {
-            first[lines] = tokens.takeNumber(0, MOST_PEOPLE);
+        private boolean readPost(Tape tape, Street street) {
+            first[lines] = tape.takeNumber(0, MOST_PEOPLE);
             if (first[lines] == NONE) {
                 return false;
             }
-            second[lines] = tokens.takeNumber(0, MOST_PEOPLE);
+            second[lines] = tape.takeNumber(0, MOST_PEOPLE);
             if (second[lines] == NONE) {
                 return false;
             }
-            if (tokens.atName() && Street.indexOf(street.drainNames, street.drains, tokens.letters) != NONE) {
-                place[lines] = FIRST_DRAIN + tokens.takeNamed(street.drainNames, street.drains);
-                return true;
-            }
-            place[lines] = tokens.takeNamed(street.wallNames, street.walls);
-            return place[lines] != NONE;
+            place[lines] = seeTarget(tape, street);
+            return movesOn(tape, place[lines]);
         }
 
-        private boolean readPlace(Tokens tokens, Street street, Word verb) {
+        /** As posted() tells where to. */
+        private static int seeTarget(Tape tape, Street street) {
+            int drain = tape.atName() ? Street.indexOf(street.drainNames, street.drains, tape.letters) : NONE;
+            return drain != NONE ? FIRST_DRAIN + drain : tape.seeNamed(street.wallNames, street.walls);
+        }
+
+        private boolean readPlace(Tape tape, Street street, Word verb) {
             if (verb == Word.HOUR) {
-                place[lines] = tokens.takeNumber(1, MOST_HOURS);
+                place[lines] = tape.seeNumber(1, MOST_HOURS);
             } else if (verb == Word.QUIT) {
-                place[lines] = tokens.takeNamed(street.wallNames, street.walls);
+                place[lines] = tape.seeNamed(street.wallNames, street.walls);
             } else {
-                place[lines] = tokens.takeNamed(street.houseNames, street.houses);
+                place[lines] = tape.seeNamed(street.houseNames, street.houses);
             }
-            return place[lines] != NONE;
+            return movesOn(tape, place[lines]);
+        }
+
+        private static boolean movesOn(Tape tape, int seen) {
+            if (seen != NONE) {
+                tape.next();
+            }
+            return seen != NONE;
         }
 
         /** Lives the LINES in a state that is made for it, up to one that is WRONG. */
@@ -1624,58 +1621,66 @@ public final class BagsRiver {
             ones = other.ones;
         }
 
-        void read(Tokens tokens, Street street) {
+        void read(Tape tape, Street street) {
             clear();
-            boolean fine = readCond(tokens, street, 1);
-            if (fine && tokens.kind != Tokens.AT_END) {
-                tokens.fail(CANT_COME);
+            boolean fine = readCond(tape, street, 1);
+            if (fine && tape.kind != Tape.AT_END) {
+                tape.fail(CANT_COME);
             }
         }
 
         /** The depth is that of the ONES that come; a ONE too deep is a FAULT, so this ends. */
-        private boolean readCond(Tokens tokens, Street street, int depth) {
-            boolean fine = readAll(tokens, street, depth);
-            for (int i = 0; fine && tokens.word == Word.OR && i <= MOST_ONES; i++) {
-                tokens.next();
-                fine = readAll(tokens, street, depth) && addStep(Word.OR, 0, 0);
+        private boolean readCond(Tape tape, Street street, int depth) {
+            boolean fine = readAll(tape, street, depth);
+            for (int i = 0; fine && tape.word == Word.OR && i <= MOST_ONES; i++) {
+                tape.next();
+                fine = readAll(tape, street, depth) && addStep(Word.OR, 0, 0);
             }
             return fine;
         }
 
-        private boolean readAll(Tokens tokens, Street street, int depth) {
-            boolean fine = readOne(tokens, street, depth);
-            for (int i = 0; fine && tokens.word == Word.AND && i <= MOST_ONES; i++) {
-                tokens.next();
-                fine = readOne(tokens, street, depth) && addStep(Word.AND, 0, 0);
+        private boolean readAll(Tape tape, Street street, int depth) {
+            boolean fine = readOne(tape, street, depth);
+            for (int i = 0; fine && tape.word == Word.AND && i <= MOST_ONES; i++) {
+                tape.next();
+                fine = readOne(tape, street, depth) && addStep(Word.AND, 0, 0);
             }
             return fine;
         }
 
-        private boolean readOne(Tokens tokens, Street street, int depth) {
-            Word verb = tokens.word;
-            boolean bracket = tokens.atSign('(');
+        private boolean readOne(Tape tape, Street street, int depth) {
+            Word verb = tape.word;
+            boolean bracket = tape.atSign('(');
             if (!bracket && !beginsOne(verb)) {
-                return tokens.fail(CANT_COME);
+                return tape.fail(CANT_COME);
             }
             if (ones >= MOST_ONES || depth > MOST_WITHIN) {
-                return tokens.fail(TOO_MANY);
+                return tape.fail(TOO_MANY);
             }
             ones++;
-            tokens.next();
+            tape.next();
             if (bracket) {
-                return readCond(tokens, street, depth + 1) && tokens.takeSign(')');
+                return readCond(tape, street, depth + 1) && tape.takeSign(')');
             }
             if (verb == Word.NOT) {
-                return readOne(tokens, street, depth + 1) && addStep(verb, 0, 0);
+                return readOne(tape, street, depth + 1) && addStep(verb, 0, 0);
             }
             if (verb == Word.BEHIND) {
-                int wall = tokens.takeNamed(street.wallNames, street.walls);
-                return wall != NONE && addStep(verb, 0, wall);
+                return readBehind(tape, street);
             }
             if (verb == Word.WORTH || verb == Word.FLOOR || verb == Word.NUMBER) {
-                return readComparison(tokens, verb);
+                return readComparison(tape, verb);
             }
             return addStep(verb, 0, 0);
+        }
+
+        private boolean readBehind(Tape tape, Street street) {
+            int wall = tape.seeNamed(street.wallNames, street.walls);
+            if (wall == NONE) {
+                return false;
+            }
+            tape.next();
+            return addStep(Word.BEHIND, 0, wall);
         }
 
         private static boolean beginsOne(Word verb) {
@@ -1684,13 +1689,13 @@ public final class BagsRiver {
                 || verb == Word.NUMBER;
         }
 
-        private boolean readComparison(Tokens tokens, Word verb) {
-            if (!tokens.atSign('<') && !tokens.atSign('=') && !tokens.atSign('>')) {
-                return tokens.fail(CANT_COME);
+        private boolean readComparison(Tape tape, Word verb) {
+            if (!tape.atSign('<') && !tape.atSign('=') && !tape.atSign('>')) {
+                return tape.fail(CANT_COME);
             }
-            int sign = tokens.value;
-            tokens.next();
-            int number = tokens.takeNumber(0, 999);
+            int sign = tape.value;
+            tape.next();
+            int number = tape.takeNumber(0, 999);
             return number != NONE && addStep(verb, sign, number);
         }
 
@@ -1735,7 +1740,11 @@ public final class BagsRiver {
         }
 
         private boolean isSo(Street street, State state, int i, int h) {
-            switch (verbs[i]) {
+            Word verb = verbs[i];
+            if (verb == null) {
+                return false;
+            }
+            switch (verb) {
                 case FLOODED: return state.isFlooded(h);
                 case UPPED: return bit(state.upHouses, h) == 1;
                 case OUTSIDE: return street.wallOf[h] == NONE;
