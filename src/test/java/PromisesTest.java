@@ -9,6 +9,7 @@ public final class PromisesTest {
         newObject();
         feedAndEnd();
         streetAndFault();
+        streetBehindAnother();
         walls();
         houses();
         drains();
@@ -50,6 +51,30 @@ public final class PromisesTest {
             answers[i] = x.now(i);
         }
         return answers;
+    }
+
+    /** All that getters tell, without what other calls told last. */
+    private static int[] everything(BagsRiver x) {
+        java.util.List<Integer> answers = new java.util.ArrayList<>();
+        for (int what = 0; what < 10; what++) {
+            answers.add(x.now(what));
+            answers.add(x.posted(what));
+            for (int i = 0; i < 10; i++) {
+                int h = i;
+                int w = what;
+                answers.add(x.wall(i, what));
+                answers.add(x.drain(i, what));
+                answers.add(Kit.caught(() -> x.house(h, w)));
+                answers.add(Kit.caught(() -> x.sure(6 * h, 6 * w, 0)));
+                answers.add(x.leaks(i, 6 * what));
+            }
+        }
+        for (int i = 0; i < 6; i++) {
+            answers.add(x.count(i));
+        }
+        answers.add(x.last());
+        answers.add(Kit.saidBits(x));
+        return answers.stream().mapToInt(i -> i).toArray();
     }
 
     private static void newObject() {
@@ -160,6 +185,40 @@ public final class PromisesTest {
         KIT.same("walls", x.count(0), 0);
         KIT.same("crests", x.count(3), 0);
         KIT.same("RIVER", x.now(1), 0);
+    }
+
+    private static void streetBehindAnother() {
+        KIT.part("4 street, behind another");
+        BagsRiver x = Kit.on("wall a 3;wall b 4;house p a 9 1;house q b 8 1;house r outside 7 1;drain d a 5 5;drain e b 5 5;"
+            + "crest 7 1;crest 9 2;gauge 0 1;gauge 2 9;people 9;sand 99;rate 9;");
+        x.up(1);
+        x.post(4, 2, 0);
+        x.hours(1);
+        x.post(4, 2, 10);
+        x.hours(1);
+        x.post(4, 1, 11);
+        x.drawn(24, 6);
+        x.quit(0);
+        x.quit(1);
+        Kit.sentence(x, "outside");
+        KIT.yes("it has RAINED", x.now(7) > 0);
+        KIT.yes("some are ready", x.now(3) > 0);
+        String small = "wall z 2;house zz z 5 3;house za outside 5 7;";
+        KIT.same("a small one", Kit.street(x, small), 3);
+        all(x, "as new", everything(x), everything(Kit.on(small)));
+        x.hours(2);
+        all(x, "as new", everything(x), everything(lived(small)));
+        KIT.same("the same again", Kit.street(x, Kit.STREET), 17);
+        all(x, "as new", everything(x), everything(Kit.on(Kit.STREET)));
+        plan(x, 78, 145, 2, 12, 0);
+        KIT.same("another", Kit.street(x, "wall z 2;house zz z 5 3;crest 4 1;"), 3);
+        plan(x, 78, 5, 1, 4);
+    }
+
+    private static BagsRiver lived(String street) {
+        BagsRiver x = Kit.on(street);
+        x.hours(2);
+        return x;
     }
 
     private static void walls() {
@@ -628,6 +687,8 @@ public final class PromisesTest {
         plan(Kit.on("wall a 2;wall b 1;house h a 9 4;house g b 9 4;crest 5 1;"), 30, 9, 1, 0, 5);
         plan(Kit.on("wall a 1;wall b 2;house h a 9 4;house g b 9 4;crest 5 1;"), 30, 9, 1, 5, 0);
         plan(Kit.on("wall a 1;house h a 9 4;crest 0 1;"), 30, 9, 1, 0);
+        plan(Kit.on("wall a 1;house h a 9 59;house g outside 9 60;crest 60 1;"), 999, 9, 1, 0);
+        plan(Kit.on("wall a 1;house h a 9 9;crest 44 1;crest 45 3;"), 999, 9, 4, 44);
         plan(Kit.on("wall a 1;house h a 1 0;crest 9 1;"), 44, 0, 1, 0);
         plan(Kit.on("wall a 1;house h a 1 0;drain d a 0 1;crest 9 7;"), 45, 1, 1, 9);
         plan(Kit.on("wall a 1;house h a 60 0;house g a 1 5;crest 9 1;crest 5 1;crest 3 1;"), 15, 122, 3, 5);
@@ -900,6 +961,8 @@ public final class PromisesTest {
         built(x, -1, 5671, 1, 1, 1, 1, 1);
         x.quit(0);
         built(x, 1 + 2, 2 + 5, 1, 1);
+        built(Kit.on("wall a 7;"), 7, 20, 1);
+        built(Kit.on("wall a 7;house h outside 1 1;"), -1, -1, 1, 1);
         BagsRiver y = new BagsRiver();
         built(y, -1, -1);
         built(y, -1, -1, 0);
@@ -1160,6 +1223,7 @@ public final class PromisesTest {
         KIT.yes("image(0) over the other", x.image(0));
         KIT.yes("restore(0)", x.restore(0));
         KIT.same("HOUR", x.now(0), 6);
+        imagesInFull();
         BagsRiver y = new BagsRiver();
         KIT.yes("an empty STREET", y.image(0));
         Kit.street(y, Kit.STREET);
@@ -1167,6 +1231,40 @@ public final class PromisesTest {
         KIT.yes("restore", y.restore(0));
         KIT.same("walls", y.count(0), 0);
         KIT.same("no SENTENCE", y.said(-1), -1);
+    }
+
+    private static void imagesInFull() {
+        String one = "wall a 3;wall b 4;house p a 9 1;house q b 8 1;house r outside 7 1;drain d b 5 5;drain e a 6 7;"
+            + "crest 7 1;crest 9 2;gauge 0 1;gauge 2 9;people 9;sand 99;rate 9;";
+        BagsRiver x = Kit.on(one);
+        x.post(4, 2, 10);
+        x.hours(1);
+        x.up(2);
+        x.drawn(3, 6);
+        Kit.sentence(x, "worth > 7 and number < 9 or behind b");
+        int[] then = everything(x);
+        KIT.yes("image(0)", x.image(0));
+        KIT.same("a small one", Kit.street(x, "house h outside 3 3;"), 1);
+        Kit.sentence(x, "floor < 3");
+        int[] small = everything(x);
+        KIT.yes("image(1)", x.image(1));
+        KIT.yes("restore(0)", x.restore(0));
+        all(x, "as it was", everything(x), then);
+        KIT.yes("restore(1)", x.restore(1));
+        all(x, "as it was", everything(x), small);
+        Kit.street(x, "");
+        KIT.yes("restore(0)", x.restore(0));
+        all(x, "as it was", everything(x), then);
+        KIT.same("names", Kit.book(x, "post 1 1 e;post 1 1 b;quit b;", 0), -1);
+        x.hours(9);
+        x.quit(1);
+        Kit.sentence(x, "safe");
+        int[] later = everything(x);
+        KIT.yes("image(1)", x.image(1));
+        KIT.yes("restore(0)", x.restore(0));
+        all(x, "as it was", everything(x), then);
+        KIT.yes("restore(1)", x.restore(1));
+        all(x, "as it was", everything(x), later);
     }
 
     private static void counts() {

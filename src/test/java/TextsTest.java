@@ -110,6 +110,7 @@ public final class TextsTest {
         wrong("sand 5;sand 5;", 7, 3);
         wrong("rate 5;rate 5;", 7, 3);
         street("crest 5 1;gauge 5 1;crest 6 1;gauge 6 1;", 4, 0);
+        street("wall az 1;wall zz 1;wall z 1;house azz zz 1 1;drain zzzzzzz z 1 1;", 5, 0);
         street("wall ab 1;wall ba 1;wall a 1;wall b 1;wall aa 1;", 5, 0);
     }
 
