@@ -316,7 +316,7 @@ public final class BagsRiver {
         return rests;
     }
 
-    /** Who is saved has the WORTH whatever the others do, so only how many go to the WALL matters here. */
+    /** All who do alike gain alike, so it is enough to ask whether one who goes, or one who stays, would. */
     private static boolean isRest(int goers, int players, int b, int needed) {
         int many = Integer.bitCount(goers);
         boolean holds = many * b >= needed;

@@ -197,10 +197,12 @@ public final class PromisesTest {
         x.post(4, 2, 10);
         x.hours(1);
         x.post(4, 1, 11);
+        x.hours(1);
+        x.post(4, 0, 11);
         x.drawn(24, 6);
-        x.quit(0);
         x.quit(1);
         Kit.sentence(x, "outside");
+        KIT.yes("bags lie there", x.wall(0, 1) > 0 && x.drain(0, 3) > 0 && x.drain(1, 3) > 0);
         KIT.yes("it has RAINED", x.now(7) > 0);
         KIT.yes("some are ready", x.now(3) > 0);
         String small = "wall z 2;house zz z 5 3;house za outside 5 7;";
