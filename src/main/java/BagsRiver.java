@@ -904,9 +904,7 @@ public final class BagsRiver {
         int rate;
 
         Street() {
-            people = 10;
-            sand = 900;
-            rate = 11;
+            clear();
         }
 
         void clear() {
