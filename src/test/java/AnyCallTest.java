@@ -22,7 +22,7 @@ public final class AnyCallTest {
         Method[] calls = BagsRiver.class.getDeclaredMethods();
         calls = Arrays.stream(calls).filter(m -> Modifier.isPublic(m.getModifiers()))
             .sorted(Comparator.comparing(Method::getName)).toArray(Method[]::new);
-        for (int seed = 0; seed < 600; seed++) {
+        for (int seed = 0; seed < 1800; seed++) {
             kit.part("seed " + seed);
             BagsRiver one = new BagsRiver();
             BagsRiver other = new BagsRiver();
@@ -31,7 +31,7 @@ public final class AnyCallTest {
                 Kit.street(one, Kit.STREET);
                 Kit.street(other, Kit.STREET);
             }
-            for (int i = 0; i < 500; i++) {
+            for (int i = 0; i < 160; i++) {
                 if (random.nextInt(6) == 0) {
                     String text = text(random);
                     feed(one, text);

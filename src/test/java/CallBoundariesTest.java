@@ -535,15 +535,15 @@ public final class CallBoundariesTest {
 
     private static void bookJudged() {
         KIT.quote("The tape is a BOOK: it is judged, all staying as it is (lives 0), or lived as far as it is not WRONG (1)");
-        BagsRiver x = Kit.on(Kit.STREET);
-        lived(x);
-        int[] before = Kit.everything(x);
         String[] books = {"hour 24;", "post 1 1 sink;hour 5;quit left;up mill;", "quit right;quit right;", "post 8 4 left;", ""};
         for (String book : books) {
+            BagsRiver x = Kit.on(Kit.STREET);
+            lived(x);
+            int[] before = Kit.everything(x);
             Kit.book(x, book, 0);
             KIT.all("all stays behind " + book, Kit.everything(x), before);
+            KIT.same("what can be undone stays", x.undo(), 2);
         }
-        KIT.same("what can be undone stays", x.undo(), 2);
     }
 
     private static void bookLived() {

@@ -3,6 +3,7 @@ import java.util.ArrayList;
 import java.util.Deque;
 import java.util.List;
 import java.util.Random;
+import java.util.function.Consumer;
 
 /** Random streets and acts, each answer held against a second program that reckons word by word (fixed seeds). */
 public final class ModelTest {
@@ -24,7 +25,10 @@ public final class ModelTest {
     private final int[][] gauges;
     private final int people;
     private final int rate;
-    private final BagsRiver x;
+    private BagsRiver x;
+    private final String streetText;
+    /** All acts so far: each comparison is of a new object that has done them, as an object is used for 512 calls alone. */
+    private final List<Consumer<BagsRiver>> acts = new ArrayList<>();
     private Now now = new Now();
     private final Deque<Now> past = new ArrayDeque<>();
 
@@ -71,7 +75,7 @@ public final class ModelTest {
         people = random.nextInt(4) == 0 ? 1 + random.nextInt(60) : 5 + random.nextInt(20);
         rate = 1 + random.nextInt(20);
         now.sand = random.nextInt(4) == 0 ? random.nextInt(50) : random.nextInt(1000);
-        x = Kit.on(street());
+        streetText = street();
         java.util.Arrays.fill(now.flooded, -1);
     }
 
@@ -115,14 +119,25 @@ public final class ModelTest {
     }
 
     private void run() {
+        x = anew();
         compare();
         for (int i = 0; i < 14; i++) {
+            x = anew();
             act();
             compare();
             if (i % 3 == 0) {
+                x = anew();
                 compareReckonings();
             }
         }
+    }
+
+    private BagsRiver anew() {
+        BagsRiver fresh = Kit.on(streetText);
+        for (Consumer<BagsRiver> act : acts) {
+            act.accept(fresh);
+        }
+        return fresh;
     }
 
     private void act() {
@@ -159,6 +174,7 @@ public final class ModelTest {
     private void undo() {
         int left = past.isEmpty() ? -1 : past.size() - 1;
         KIT.same("undo", x.undo(), left);
+        acts.add(BagsRiver::undo);
         if (left >= 0) {
             now = past.pop();
         }
@@ -171,6 +187,7 @@ public final class ModelTest {
         boolean known = w >= 0 && w < wide.length || w >= 10 && w - 10 < drains.length;
         int due = f + c > people || !known ? -1 : java.util.Arrays.equals(now.post, new int[] {f, c, w}) ? 1 : 0;
         KIT.same("post(" + f + ", " + c + ", " + w + ")", x.post(f, c, w), due);
+        acts.add(y -> y.post(f, c, w));
         if (due == 0) {
             now.post = new int[] {f, c, w};
             keep(before);
@@ -180,6 +197,7 @@ public final class ModelTest {
     private void quit(Now before, int w) {
         int due = w < 0 || w >= wide.length ? -1 : now.quit[w] ? 1 : 0;
         KIT.same("quit(" + w + ")", x.quit(w), due);
+        acts.add(y -> y.quit(w));
         if (due == 0) {
             now.quit[w] = true;
             now.ready += now.wallBags[w] / 2;
@@ -191,6 +209,7 @@ public final class ModelTest {
     private void up(Now before, int h) {
         int due = h < 0 || h >= houses.length ? -1 : now.flooded[h] >= 0 ? 1 : now.up[h] ? 2 : 0;
         KIT.same("up(" + h + ")", x.up(h), due);
+        acts.add(y -> y.up(h));
         if (due == 0) {
             now.up[h] = true;
             now.tired++;
@@ -201,6 +220,7 @@ public final class ModelTest {
     private void hours(Now before, int n) {
         int due = Math.min(n, 48 - now.hour);
         KIT.same("hours(" + n + ")", x.hours(n), due);
+        acts.add(y -> y.hours(n));
         for (int i = 0; i < due; i++) {
             hour(now);
         }
@@ -212,6 +232,7 @@ public final class ModelTest {
     private void drawn(Now before, int n, int seed) {
         int due = Math.min(n, 48 - now.hour);
         KIT.same("drawn(" + n + ", " + seed + ")", x.drawn(n, seed), due);
+        acts.add(y -> y.drawn(n, seed));
         draw(now, n, seed);
         if (due > 0) {
             keep(before);
@@ -646,6 +667,8 @@ public final class ModelTest {
         for (int what = 0; what < 4; what++) {
             KIT.same("told(" + what + ")", x.told(what), told[what]);
         }
+        String book = text.toString();
+        acts.add(y -> Kit.book(y, book, lives));
         if (lives == 1 && lived > 0) {
             keep(now.copy());
             now = then;

@@ -38,43 +38,12 @@ public final class PromisesTest {
         KIT.finish();
     }
 
-    private static void all(BagsRiver x, String what, int[] got, int... want) {
-        KIT.same(what + ": how many", got.length, want.length);
-        for (int i = 0; i < Math.min(got.length, want.length); i++) {
-            KIT.same(what + " [" + i + "]", got[i], want[i]);
-        }
-    }
-
     private static int[] nows(BagsRiver x) {
         int[] answers = new int[10];
         for (int i = 0; i < 10; i++) {
             answers[i] = x.now(i);
         }
         return answers;
-    }
-
-    /** All that getters tell, without what other calls told last. */
-    private static int[] everything(BagsRiver x) {
-        java.util.List<Integer> answers = new java.util.ArrayList<>();
-        for (int what = 0; what < 10; what++) {
-            answers.add(x.now(what));
-            answers.add(x.posted(what));
-            for (int i = 0; i < 10; i++) {
-                int h = i;
-                int w = what;
-                answers.add(x.wall(i, what));
-                answers.add(x.drain(i, what));
-                answers.add(Kit.caught(() -> x.house(h, w)));
-                answers.add(Kit.caught(() -> x.sure(6 * h, 6 * w, 0)));
-                answers.add(x.leaks(i, 6 * what));
-            }
-        }
-        for (int i = 0; i < 6; i++) {
-            answers.add(x.count(i));
-        }
-        answers.add(x.last());
-        answers.add(Kit.saidBits(x));
-        return answers.stream().mapToInt(i -> i).toArray();
     }
 
     private static void newObject() {
@@ -86,7 +55,7 @@ public final class PromisesTest {
         KIT.same("people", x.count(4), 10);
         KIT.same("rate", x.count(5), 11);
         KIT.same("tape", x.count(6), 0);
-        all(x, "now", nows(x), 0, 0, 900, 0, 0, 11, 0, 0, 0, 0);
+        KIT.all("now", nows(x), 0, 0, 900, 0, 0, 11, 0, 0, 0, 0);
         KIT.same("fault", x.fault(), 0);
         KIT.same("planAt", x.planAt(0), -1);
         KIT.same("crewed", x.crewed(0), -1);
@@ -169,7 +138,7 @@ public final class PromisesTest {
         x.rests(0, 39);
         KIT.same("a new STREET", Kit.street(x, "wall w 2;crest 3 1;people 7;sand 8;rate 9;gauge 0 5;"), 6);
         KIT.same("fault", x.fault(), 0);
-        all(x, "now", nows(x), 0, 5, 8, 0, 0, 9, 0, 0, 0, 0);
+        KIT.all("now", nows(x), 0, 5, 8, 0, 0, 9, 0, 0, 0, 0);
         KIT.same("posted", x.posted(0) + x.posted(1) + x.posted(2), 0);
         KIT.same("undo", x.undo(), -1);
         KIT.same("said", x.said(-1), -1);
@@ -207,11 +176,11 @@ public final class PromisesTest {
         KIT.yes("some are ready", x.now(3) > 0);
         String small = "wall z 2;house zz z 5 3;house za outside 5 7;";
         KIT.same("a small one", Kit.street(x, small), 3);
-        all(x, "as new", everything(x), everything(Kit.on(small)));
+        KIT.all("as new", Kit.everything(x), Kit.everything(Kit.on(small)));
         x.hours(2);
-        all(x, "as new", everything(x), everything(lived(small)));
+        KIT.all("as new", Kit.everything(x), Kit.everything(lived(small)));
         KIT.same("the same again", Kit.street(x, Kit.STREET), 17);
-        all(x, "as new", everything(x), everything(Kit.on(Kit.STREET)));
+        KIT.all("as new", Kit.everything(x), Kit.everything(Kit.on(Kit.STREET)));
         plan(x, 78, 145, 2, 12, 0);
         KIT.same("another", Kit.street(x, "wall z 2;house zz z 5 3;crest 4 1;"), 3);
         plan(x, 78, 5, 1, 4);
@@ -332,13 +301,13 @@ public final class PromisesTest {
     private static void now() {
         KIT.part("9 now");
         BagsRiver x = Kit.on(Kit.STREET);
-        all(x, "now", nows(x), 0, 3, 300, 0, 0, 5, 0, 0, 150, 0);
+        KIT.all("now", nows(x), 0, 3, 300, 0, 0, 5, 0, 0, 150, 0);
         x.post(8, 1, 0);
         x.hours(1);
-        all(x, "behind one", nows(x), 1, 3, 280, 15, 1, 5, 0, 0, 150, 5);
+        KIT.all("behind one", nows(x), 1, 3, 280, 15, 1, 5, 0, 0, 150, 5);
         x.up(3);
         x.hours(4);
-        all(x, "behind five", nows(x), 5, 6, 224, 57, 6, 2, 5, 0, 60, 19);
+        KIT.all("behind five", nows(x), 5, 6, 224, 57, 6, 2, 5, 0, 60, 19);
         for (int bad : new int[] {-1, 10, LEAST, MOST}) {
             KIT.same("now(" + bad + ")", x.now(bad), -1);
         }
@@ -446,25 +415,25 @@ public final class PromisesTest {
         }
         x.post(5, 1, 0);
         x.hours(1);
-        all(x, "half of five", nows(x), 1, 0, 14, 3, 1, 3, 0, 0, 0, 3);
+        KIT.all("half of five", nows(x), 1, 0, 14, 3, 1, 3, 0, 0, 0, 3);
         x.hours(1);
-        all(x, "TIRED by 1", nows(x), 2, 0, 8, 6, 2, 2, 0, 0, 0, 6);
+        KIT.all("TIRED by 1", nows(x), 2, 0, 8, 6, 2, 2, 0, 0, 0, 6);
         x.hours(1);
-        all(x, "TIRED by 2", nows(x), 3, 0, 4, 8, 3, 2, 0, 0, 0, 8);
+        KIT.all("TIRED by 2", nows(x), 3, 0, 4, 8, 3, 2, 0, 0, 0, 8);
         x.hours(1);
-        all(x, "TIRED by 3", nows(x), 4, 0, 0, 10, 4, 1, 0, 0, 0, 10);
+        KIT.all("TIRED by 3", nows(x), 4, 0, 0, 10, 4, 1, 0, 0, 0, 10);
         x.hours(1);
-        all(x, "no sand", nows(x), 5, 0, 0, 9, 5, 1, 0, 0, 0, 11);
+        KIT.all("no sand", nows(x), 5, 0, 0, 9, 5, 1, 0, 0, 0, 11);
         x.hours(4);
-        all(x, "one at least", nows(x), 9, 0, 0, 5, 9, 1, 0, 0, 0, 15);
+        KIT.all("one at least", nows(x), 9, 0, 0, 5, 9, 1, 0, 0, 0, 15);
         x.post(0, 0, 0);
         x.hours(4);
-        all(x, "rest by 2", nows(x), 13, 0, 0, 5, 1, 3, 0, 0, 0, 15);
+        KIT.all("rest by 2", nows(x), 13, 0, 0, 5, 1, 3, 0, 0, 0, 15);
         x.hours(1);
         KIT.same("not below 0", x.now(4), 0);
         x.post(0, 9, 0);
         x.hours(1);
-        all(x, "as many as are ready", nows(x), 15, 0, 0, 0, 1, 3, 0, 0, 0, 20);
+        KIT.all("as many as are ready", nows(x), 15, 0, 0, 0, 1, 3, 0, 0, 0, 20);
         KIT.same("24", x.hours(24), 24);
         KIT.same("what is left", x.hours(24), 9);
         KIT.same("all are over", x.hours(1), 0);
@@ -1045,7 +1014,7 @@ public final class PromisesTest {
     }
 
     private static void told(BagsRiver x, int why, int lines, int hour, int saved) {
-        all(x, "told", new int[] {x.told(0), x.told(1), x.told(2), x.told(3)}, why, lines, hour, saved);
+        KIT.all("told", new int[] {x.told(0), x.told(1), x.told(2), x.told(3)}, why, lines, hour, saved);
     }
 
     private static void books() {
@@ -1201,7 +1170,7 @@ public final class PromisesTest {
         KIT.same("the tape stays", x.count(6), 3);
         KIT.same("what was told stays", x.carried(), 0);
         x.end(0);
-        all(x, "now", nows(x), then);
+        KIT.all("now", nows(x), then);
         KIT.same("nothing can be undone", x.undo(), -1);
         KIT.same("walls", x.count(0), 2);
         KIT.same("houses", x.count(1), 5);
@@ -1219,13 +1188,14 @@ public final class PromisesTest {
         KIT.same("the SENTENCE", Kit.saidBits(x), 1);
         KIT.same("names", Kit.book(x, "up right;post 1 1 left;quit w;", 1), -1);
         KIT.yes("restore(1) again", x.restore(1));
-        all(x, "now", nows(x), then);
+        KIT.all("now", nows(x), then);
         KIT.same("not QUIT in the image", x.wall(1, 3), 0);
         x.hours(1);
         KIT.yes("image(0) over the other", x.image(0));
         KIT.yes("restore(0)", x.restore(0));
         KIT.same("HOUR", x.now(0), 6);
         imagesInFull();
+        imagesOfOneStreet();
         BagsRiver y = new BagsRiver();
         KIT.yes("an empty STREET", y.image(0));
         Kit.street(y, Kit.STREET);
@@ -1235,38 +1205,48 @@ public final class PromisesTest {
         KIT.same("no SENTENCE", y.said(-1), -1);
     }
 
-    private static void imagesInFull() {
-        String one = "wall a 3;wall b 4;house p a 9 1;house q b 8 1;house r outside 7 1;drain d b 5 5;drain e a 6 7;"
-            + "crest 7 1;crest 9 2;gauge 0 1;gauge 2 9;people 9;sand 99;rate 9;";
-        BagsRiver x = Kit.on(one);
+    private static BagsRiver inFull() {
+        BagsRiver x = Kit.on("wall a 3;wall b 4;house p a 9 1;house q b 8 1;house r outside 7 1;drain d b 5 5;drain e a 6 7;"
+            + "crest 7 1;crest 9 2;gauge 0 1;gauge 2 9;people 9;sand 99;rate 9;");
         x.post(4, 2, 10);
         x.hours(1);
         x.up(2);
         x.drawn(3, 6);
         Kit.sentence(x, "worth > 7 and number < 9 or behind b");
-        int[] then = everything(x);
+        return x;
+    }
+
+    private static void imagesInFull() {
+        BagsRiver x = inFull();
+        int[] then = Kit.everything(x);
         KIT.yes("image(0)", x.image(0));
         KIT.same("a small one", Kit.street(x, "house h outside 3 3;"), 1);
         Kit.sentence(x, "floor < 3");
-        int[] small = everything(x);
+        int[] small = Kit.everything(x);
         KIT.yes("image(1)", x.image(1));
         KIT.yes("restore(0)", x.restore(0));
-        all(x, "as it was", everything(x), then);
+        KIT.all("as it was", Kit.everything(x), then);
         KIT.yes("restore(1)", x.restore(1));
-        all(x, "as it was", everything(x), small);
+        KIT.all("as it was", Kit.everything(x), small);
         Kit.street(x, "");
         KIT.yes("restore(0)", x.restore(0));
-        all(x, "as it was", everything(x), then);
+        KIT.all("as it was", Kit.everything(x), then);
         KIT.same("names", Kit.book(x, "post 1 1 e;post 1 1 b;quit b;", 0), -1);
+    }
+
+    private static void imagesOfOneStreet() {
+        BagsRiver x = inFull();
+        int[] then = Kit.everything(x);
+        KIT.yes("image(0)", x.image(0));
         x.hours(9);
         x.quit(1);
         Kit.sentence(x, "safe");
-        int[] later = everything(x);
+        int[] later = Kit.everything(x);
         KIT.yes("image(1)", x.image(1));
         KIT.yes("restore(0)", x.restore(0));
-        all(x, "as it was", everything(x), then);
+        KIT.all("as it was", Kit.everything(x), then);
         KIT.yes("restore(1)", x.restore(1));
-        all(x, "as it was", everything(x), later);
+        KIT.all("as it was", Kit.everything(x), later);
     }
 
     private static void counts() {
