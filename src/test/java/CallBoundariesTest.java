@@ -19,6 +19,7 @@ public final class CallBoundariesTest {
         faultOfTheLatest();
         faultAheadOfAny();
         newStreet();
+        newStreetBehindFullOnes();
         newStreetWhatWasToldStays();
         newStreetCannotBeUndone();
         throwsAndChangesNothing();
@@ -45,6 +46,8 @@ public final class CallBoundariesTest {
         upped();
         imagePlaces();
         imageKeepsAll();
+        imageKeepsTheSentence();
+        imageKeepsTheStreet();
         imageOverAnother();
         imageLeavesAll();
         restoreWhatIsKept();
@@ -355,6 +358,38 @@ public final class CallBoundariesTest {
             KIT.same("no SENTENCE", x.said(-1), -1);
             KIT.all("HOUR, TIRED, RAIN, carried", new int[] {x.now(0), x.now(4), x.now(7), x.now(9)}, 0, 0, 0, 0);
         }
+    }
+
+    private static void newStreetBehindFullOnes() {
+        KIT.quote("A new STREET: HOUR 0, no bags, nobody posted or TIRED");
+        String full = "wall a 1;wall b 1;house c b 9 0;house d outside 9 0;drain e b 0 9;crest 60 1;gauge 0 60;people 2;sand 3;rate 4;";
+        String small = "wall z 2;house h z 5 3;";
+        BagsRiver x = new BagsRiver();
+        for (String text : new String[] {full, full, small, small, "", ""}) {
+            Kit.street(x, text);
+        }
+        KIT.all("an empty one", Kit.everything(x), Kit.everything(new BagsRiver()));
+        Kit.street(x, full);
+        Kit.street(x, small);
+        Kit.street(x, small);
+        KIT.all("a small one", Kit.everything(x), Kit.everything(Kit.on(small)));
+        KIT.same("no crests: CARPETS", x.carpets(9), 0);
+        KIT.same("no crests: GAME", x.rests(0, 0), 2);
+        KIT.same("no crests: PLAN", Kit.caught(() -> x.plan(9, 0)), Kit.THROWS);
+        KIT.same("HOUSES", x.wall(0, 4), 1);
+        KIT.same("DRAINS", x.wall(0, 5), 0);
+        for (String name : "a b c d e".split(" ")) {
+            KIT.same("no WALL of that NAME", Kit.book(x, "quit " + name + ";", 0), -7);
+            KIT.same("no HOUSE of that NAME", Kit.book(x, "up " + name + ";", 0), -5);
+            KIT.same("no DRAIN of that NAME", Kit.book(x, "post 1 1 " + name + ";", 0), -11);
+        }
+        Kit.street(x, "crest 5 1;gauge 5 5;" + small);
+        KIT.same("no crest of those ahead", Kit.caught(() -> x.sure(60, 6, 0)), Kit.THROWS);
+        KIT.same("no gauge of those ahead", x.now(1), 0);
+        Kit.street(x, "drain e a 0 9;");
+        KIT.same("no NAME of those ahead", x.fault(), 3);
+        Kit.street(x, small + "wall a 1;house c a 1 1;drain e a 1 1;");
+        KIT.same("those NAMES are free again", x.fault(), 0);
     }
 
     private static void newStreetWhatWasToldStays() {
@@ -849,6 +884,47 @@ public final class CallBoundariesTest {
         KIT.yes("restore(0)", x.restore(0));
         KIT.same("as new", x.now(0) + x.now(4) + x.now(7) + x.now(9), 0);
         KIT.same("no SENTENCE", x.said(-1), -1);
+    }
+
+    private static void imageKeepsTheSentence() {
+        KIT.quote("STREET, all that is so and the SENTENCE are kept in place k (0, 1)");
+        BagsRiver x = Kit.on(Kit.STREET);
+        Kit.sentence(x, "not worth<30 and (number=0 or behind right)");
+        x.image(0);
+        Kit.sentence(x, "floor>5 or floor=5");
+        x.image(1);
+        Kit.sentence(x, "upped and upped or upped and not (upped or upped)");
+        x.restore(0);
+        KIT.same("the first", Kit.saidBits(x), 1 + 4);
+        x.restore(1);
+        KIT.same("the second", Kit.saidBits(x), 1 + 2 + 8 + 16);
+        Kit.sentence(x, "safe");
+        Kit.sentence(x, "?");
+        x.restore(0);
+        KIT.same("the first again", Kit.saidBits(x), 1 + 4);
+    }
+
+    private static void imageKeepsTheStreet() {
+        KIT.quote("STREET, all that is so and the SENTENCE are kept in place k (0, 1)");
+        String one = "wall a 1;wall b 2;house c a 5 1;house d b 6 2;house e outside 7 3;drain f b 8 4;drain g a 9 5;crest 7 1;crest 9 2;"
+            + "gauge 0 1;gauge 3 2;people 7;sand 8;rate 9;";
+        String other = "wall z 3;wall y 4;house x outside 8 5;house w z 9 6;house v y 4 7;drain u z 7 6;drain t y 6 7;crest 8 4;crest 11 3;"
+            + "gauge 0 4;gauge 3 5;people 8;sand 9;rate 7;";
+        BagsRiver x = Kit.on(one);
+        int[] then = Kit.everything(x);
+        x.image(0);
+        Kit.street(x, other);
+        x.image(1);
+        x.restore(0);
+        KIT.all("as it was", Kit.everything(x), then);
+        KIT.same("its NAMES", Kit.book(x, "post 1 1 f;post 1 1 g;quit a;quit b;up c;up d;up e;", 0), -1);
+        x.hours(3);
+        KIT.same("its gauge", x.now(1), 2);
+        x.restore(1);
+        KIT.all("the other", Kit.everything(x), Kit.everything(Kit.on(other)));
+        KIT.same("its NAMES", Kit.book(x, "post 1 1 u;post 1 1 t;quit z;quit y;up x;up w;up v;", 0), -1);
+        x.hours(3);
+        KIT.same("its gauge", x.now(1), 5);
     }
 
     private static void imageOverAnother() {

@@ -17,6 +17,7 @@ public final class ReckonBoundariesTest {
         planTheLeastInches();
         planOfEmptyStreets();
         planOfFullStreets();
+        planBehindAnother();
         planThrows();
         planAtNoSuchOne();
         sureAtMost();
@@ -172,6 +173,28 @@ public final class ReckonBoundariesTest {
         plan(x, 144, 825, 1, 3, 3, 3, 3, 3);
         plan(x, 999, 825, 1, 3, 3, 3, 3, 3);
         KIT.same("no WALL 5", x.planAt(5), -1);
+        String six = "crest 1 1;crest 2 1;crest 3 1;crest 4 1;crest 5 1;crest 6 1;";
+        BagsRiver y = Kit.on("wall w 1;house h w 6 0;house g w 60 5;" + six);
+        int[][] due = {{0, 50, 0}, {1, 51, 1}, {2, 51, 1}, {3, 52, 2}, {6, 53, 3}, {10, 54, 4}, {15, 55, 5}, {20, 55, 5}, {21, 66, 6}};
+        for (int[] d : due) {
+            plan(y, d[0], d[1], 1, d[2]);
+        }
+        BagsRiver walls = Kit.on("wall a 1;wall b 1;wall c 1;wall d 1;wall e 1;house h e 6 0;house g a 6 0;" + six);
+        plan(walls, 42, 12, 1, 6, 0, 0, 0, 6);
+        plan(walls, 41, 11, 1, 5, 0, 0, 0, 6);
+    }
+
+    private static void planBehindAnother() {
+        KIT.quote("How high a WALL is by the latest plan()");
+        BagsRiver x = Kit.on("wall a 1;wall b 1;wall c 1;house h c 6 0;house g b 6 0;crest 1 1;crest 2 1;crest 3 1;");
+        plan(x, 999, 12, 1, 0, 3, 3);
+        Kit.street(x, "wall z 1;house h z 9 0;crest 4 1;");
+        plan(x, 10, 9, 1, 4);
+        KIT.same("no other WALL", x.planAt(1), -1);
+        plan(x, 9, 0, 1, 0);
+        Kit.street(x, "wall y 1;wall z 1;house h z 9 0;crest 2 1;");
+        plan(x, 3, 9, 1, 0, 2);
+        KIT.same("no other WALL", x.planAt(2), -1);
     }
 
     private static void planThrows() {
@@ -333,6 +356,11 @@ public final class ReckonBoundariesTest {
         KIT.same("the HOUR stays", y.now(0), 3);
         KIT.same("what is ready stays", y.now(3), 7);
         KIT.same("TIRED stays", y.now(4), 3);
+        BagsRiver later = Kit.on("wall w 1;people 3;rate 3;");
+        later.post(2, 1, 0);
+        later.hours(2);
+        KIT.same("carried so far", later.now(9), 6);
+        crew(later, 1, 2, 2, 1);
         BagsRiver most = Kit.on("wall w 1;people 60;rate 20;sand 999;");
         crew(most, 1, 400, 40, 20);
         crew(most, 2, 800, 40, 20);

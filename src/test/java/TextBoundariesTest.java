@@ -613,6 +613,11 @@ public final class TextBoundariesTest {
         KIT.same("the most who carry", Kit.book(x, "post 0 60 d;", 1), -1);
         KIT.same("C", x.posted(1), 60);
         KIT.same("where to", x.posted(2), 10);
+        BagsRiver six = Kit.on("wall w 1;" + lines("drain", 6, " w 1 1;"));
+        for (int d = 0; d < 6; d++) {
+            KIT.same("to a DRAIN", Kit.book(six, "post 1 1 " + (char) ('a' + d) + ";", 1), -1);
+            KIT.same("where to", six.posted(2), 10 + d);
+        }
         wrongBook("post 1 left;", 7, 1);
         wrongBook("post left 1 1;", 5, 1);
         wrongBook("post 1 1 1;", 9, 1);
@@ -761,6 +766,9 @@ public final class TextBoundariesTest {
         wrongSentence(twenty + " or not safe", twenty.length() + 4, 4);
         wrongSentence(twenty + " or worth<5", twenty.length() + 4, 4);
         wrongSentence(twenty + " or behind nobody", twenty.length() + 4, 4);
+        said("upped" + Kit.repeat(" or upped", 17) + " or number=1 or number=3", 10);
+        said("(safe" + Kit.repeat(" and safe", 17) + " and number>1)", 28);
+        said(Kit.repeat("not number=2 and ", 9) + "not number=4", 11);
         String nineteen = "safe" + Kit.repeat(" or safe", 18);
         sentence(nineteen + " or upped", 20);
         wrongSentence(nineteen + " or (upped", nineteen.length() + 5, 4);
