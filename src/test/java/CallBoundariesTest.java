@@ -1,3 +1,5 @@
+import java.util.function.ToIntFunction;
+
 /** Each sentence of the document that names a boundary of the calls: promises 1 to 5, 15, 35 to 41, and what is kept. */
 public final class CallBoundariesTest {
     private static final Kit KIT = new Kit();
@@ -23,6 +25,10 @@ public final class CallBoundariesTest {
         newStreetWhatWasToldStays();
         newStreetCannotBeUndone();
         throwsAndChangesNothing();
+        refusedCallsLeaveAll();
+        fullTapeLeavesAll();
+        nothingThere();
+        wallsWithoutHouses();
         undoOfEach();
         undoOfWhatWasNotDone();
         undoEightAtMost();
@@ -443,6 +449,118 @@ public final class CallBoundariesTest {
             KIT.same("sure", Kit.caught(() -> x.sure(0, 13, 0)), Kit.THROWS);
             KIT.same("sure what", Kit.caught(() -> x.sure(0, 0, 2)), Kit.THROWS);
         });
+    }
+
+    /** What a refused call answers, by calls that are refused for one reason each; NoSuchElementException is Kit.THROWS. */
+    private static void refusedCallsLeaveAll() {
+        KIT.quote("Nothing is promised beyond the answers and state changes described above");
+        refused("end(-1)", 0, x -> x.end(-1) ? 1 : 0);
+        refused("end(4)", 0, x -> x.end(4) ? 1 : 0);
+        for (int bad : new int[] {-1, LEAST, MOST}) {
+            refused("wall", -1, x -> x.wall(bad, 0));
+            refused("wall what", -1, x -> x.wall(0, bad));
+            refused("house", Kit.THROWS, x -> x.house(bad, 0));
+            refused("house what", Kit.THROWS, x -> x.house(0, bad));
+            refused("drain", -1, x -> x.drain(bad, 0));
+            refused("drain what", -1, x -> x.drain(0, bad));
+            refused("now", -1, x -> x.now(bad));
+            refused("posted", -1, x -> x.posted(bad));
+            refused("post F", -1, x -> x.post(bad, 0, 0));
+            refused("post C", -1, x -> x.post(0, bad, 0));
+            refused("post w", -1, x -> x.post(0, 0, bad));
+            refused("quit", -1, x -> x.quit(bad));
+            refused("up", -1, x -> x.up(bad));
+            refused("hours", -1, x -> x.hours(bad));
+            refused("takes", -1, x -> x.takes(bad, 0));
+            refused("takes h", -1, x -> x.takes(0, bad));
+            refused("lacks", -1, x -> x.lacks(bad));
+            refused("plan", Kit.THROWS, x -> x.plan(bad, 0));
+            refused("plan what", Kit.THROWS, x -> x.plan(0, bad));
+            refused("planAt", -1, x -> x.planAt(bad));
+            refused("sure h", Kit.THROWS, x -> x.sure(bad, 0, 0));
+            refused("sure l", Kit.THROWS, x -> x.sure(0, bad, 0));
+            refused("sure what", Kit.THROWS, x -> x.sure(0, 0, bad));
+            refused("crew", -1, x -> x.crew(bad));
+            refused("crewed", -1, x -> x.crewed(bad));
+            refused("rests", -1, x -> x.rests(bad, 0));
+            refused("rests b", -1, x -> x.rests(0, bad));
+            refused("due", -1, x -> x.due(bad, 0));
+            refused("due w", -1, x -> x.due(3, bad));
+            refused("leaks", -1, x -> x.leaks(bad, 0));
+            refused("leaks h", -1, x -> x.leaks(0, bad));
+            refused("when", -1, x -> x.when(bad));
+            refused("carpets", -1, x -> x.carpets(bad));
+            refused("drawn", -1, x -> x.drawn(bad, 0));
+            refused("odds", -1, x -> x.odds(bad, 1, 0));
+            refused("odds n", -1, x -> x.odds(0, bad, 0));
+            refused("book", -1000, x -> x.book(bad));
+            refused("told", -1, x -> x.told(bad));
+            refused("said", bad == -1 ? 3 : -1, x -> x.said(bad));
+            refused("image", 0, x -> x.image(bad) ? 1 : 0);
+            refused("restore", 0, x -> x.restore(bad) ? 1 : 0);
+            refused("count", -1, x -> x.count(bad));
+        }
+        refused("restore(0)", 0, x -> x.restore(0) ? 1 : 0);
+    }
+
+    private static void refused(String call, int due, ToIntFunction<BagsRiver> refused) {
+        KIT.leavesAll(call, x -> {
+            Kit.street(x, Kit.STREET);
+            x.image(1);
+            x.plan(165, 0);
+            x.crew(1);
+            x.rests(0, 39);
+            x.carpets(2);
+            Kit.book(x, "hour 3;post 0 0 left;", 1);
+            lived(x);
+            Kit.text(x, "abc");
+        }, x -> KIT.same(call, Kit.caught(() -> refused.applyAsInt(x)), due));
+    }
+
+    private static void fullTapeLeavesAll() {
+        KIT.quote("NONE, and none come, if it would have more than 940");
+        BagsRiver x = new BagsRiver();
+        Kit.text(x, Kit.padded("wall w 1;wall v 2;", 890) + "wall u 30;" + Kit.repeat(" ", 40));
+        KIT.same("full", x.feed(-1, -1, -1, -1, -1), -1);
+        KIT.yes("the first 900", x.end(900));
+        KIT.same("they are as they were", x.street(), -898);
+        KIT.same("a NUMBER", x.fault(), 2);
+    }
+
+    /** Every call on a STREET that has nothing. */
+    private static void nothingThere() {
+        KIT.quote("An empty STREET; an empty tape.");
+        BagsRiver x = new BagsRiver();
+        KIT.no("end", x.end(1));
+        KIT.all("of WALLS", new int[] {x.wall(0, 0), x.quit(0), x.takes(0, 0), x.lacks(0), x.planAt(0), x.rests(0, 0), x.leaks(0, 0)},
+            -1, -1, -1, -1, -1, -1, -1);
+        KIT.all("of HOUSES", new int[] {Kit.caught(() -> x.house(0, 0)), x.up(0), x.due(0, 0), x.when(0), x.odds(0, 1, 0),
+            x.carpets(0), x.carpets(10), x.carried(), x.now(6), x.now(8), x.last()}, Kit.THROWS, -1, -1, -1, -1, 0, 0, 0, 0, 0, 0);
+        KIT.all("of DRAINS", new int[] {x.drain(0, 0), x.post(0, 0, 10)}, -1, -1);
+        KIT.all("of crests", new int[] {Kit.caught(() -> x.plan(0, 0)), Kit.caught(() -> x.sure(0, 0, 0)),
+            Kit.caught(() -> x.sure(60, 0, 1))}, Kit.THROWS, Kit.THROWS, Kit.THROWS);
+        KIT.all("of people", new int[] {x.post(0, 0, 0), x.post(1, 0, 0), x.crew(1), x.crewed(0), x.crewed(1), x.posted(0)},
+            -1, -1, 0, 0, 0, 0);
+        KIT.all("of texts", new int[] {x.built(), x.most(), x.sentence(), x.fault(), x.said(-1), x.book(0), x.fault(), x.told(1),
+            x.street(), x.fault()}, -1, -1, -1, 1, -1, -1, 0, 0, 0, 0);
+        KIT.all("of what is kept", new int[] {x.restore(0) ? 1 : 0, x.restore(1) ? 1 : 0, x.undo(), x.image(0) ? 1 : 0,
+            x.restore(0) ? 1 : 0}, 0, 0, -1, 1, 1);
+        KIT.all("HOURS go", new int[] {x.hours(24), x.drawn(23, 0), x.now(0), x.crew(1), x.crew(2), x.hours(2), x.undo()},
+            24, 23, 47, 0, -1, 1, 2);
+    }
+
+    private static void wallsWithoutHouses() {
+        KIT.quote("4 HOUSES behind it, as bits, 5 its DRAINS, as bits. NONE: no such ones.");
+        BagsRiver x = Kit.on("wall w 1;");
+        KIT.all("its WALL", new int[] {x.wall(0, 4), x.wall(0, 5), x.leaks(0, 60), x.lacks(0), x.rests(0, 999), x.walling()},
+            0, 0, 0, 0, 1, 0);
+        KIT.all("no HOUSES", new int[] {x.now(6), x.now(8), x.last(), x.carpets(10), x.when(0), x.due(0, 1)}, 0, 0, 0, 0, -1, -1);
+        KIT.same("a SENTENCE", Kit.sentence(x, "behind w or not safe"), 3);
+        KIT.same("of none", x.said(-1), 0);
+        KIT.same("none such", x.said(0), -1);
+        BagsRiver y = Kit.on("house h outside 9 0;");
+        KIT.all("no WALLS", new int[] {y.post(1, 1, 0), y.hours(24), y.last(), y.when(0), y.due(0, 9), y.odds(0, 1, 60)},
+            -1, 24, 9, -1, 9, 1);
     }
 
     private static void undoOfEach() {
