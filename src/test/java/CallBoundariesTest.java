@@ -49,6 +49,7 @@ public final class CallBoundariesTest {
         saidWhich();
         saidWithoutASentence();
         safeInThisHour();
+        flooded();
         upped();
         imagePlaces();
         imageKeepsAll();
@@ -825,7 +826,10 @@ public final class CallBoundariesTest {
     }
 
     private static void toldWhat() {
-        KIT.quote("Of the latest book() that had no FAULT (and was not -1000)");
+        KIT.quote("Of the latest book() that had no FAULT (and was not -1000): 0 why it was WRONG (0: it was not; 1 posted just "
+            + "so, 9 more than there are people; 11 as for quitting; 21, 22 for carrying UP; 31: fewer HOURS are left), 1 how "
+            + "many LINES are ahead of the one that is WRONG (all, if none is), 2 the HOUR then, 3 SAVED then. NONE: another "
+            + "what, or ahead of any.");
         BagsRiver x = Kit.on(Kit.STREET);
         KIT.all("ahead of any", Kit.ofTexts(x), 0, -1, -1, -1, -1);
         Kit.book(x, "hour", 0);
@@ -952,6 +956,25 @@ public final class CallBoundariesTest {
         over.hours(24);
         Kit.sentence(over, "safe");
         KIT.same("all HOURS are over", Kit.saidBits(over), 2);
+    }
+
+    private static void flooded() {
+        KIT.quote("'flooded' | 'upped' (its things are upstairs) | 'outside'");
+        BagsRiver x = Kit.on("wall w 1;house a outside 9 3;house b w 9 3;house c outside 9 4;gauge 1 4;gauge 2 0;");
+        Kit.sentence(x, "flooded");
+        KIT.same("ahead of the RIVER", Kit.saidBits(x), 0);
+        x.hours(1);
+        KIT.same("the RIVER is there, its HOUR has not gone", Kit.saidBits(x), 0);
+        x.hours(1);
+        KIT.same("those below it", Kit.saidBits(x), 1 + 2);
+        x.hours(1);
+        KIT.same("for good", Kit.saidBits(x), 1 + 2);
+        Kit.sentence(x, "outside");
+        KIT.same("outside", Kit.saidBits(x), 1 + 4);
+        Kit.sentence(x, "not outside");
+        KIT.same("behind a WALL", Kit.saidBits(x), 2);
+        x.quit(0);
+        KIT.same("behind one that was QUIT", Kit.saidBits(x), 2);
     }
 
     private static void upped() {

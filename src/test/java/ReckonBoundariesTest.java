@@ -470,7 +470,7 @@ public final class ReckonBoundariesTest {
     }
 
     private static void gameOfTen() {
-        KIT.quote("REST: nobody would have more by doing the other thing alone.");
+        KIT.quote("One who has the house saved has its WORTH. REST: nobody would have more by doing the other thing alone.");
         StringBuilder street = new StringBuilder("wall w 1;crest 4 1;");
         for (char c = 'a'; c <= 'j'; c++) {
             street.append("house ").append(c).append(" w 1 0;");
