@@ -85,7 +85,7 @@ public final class ReckonBoundariesTest {
     }
 
     private static void planAsIfItHadNone() {
-        KIT.quote("to each WALL (as if it had none)");
+        KIT.quote("PLAN of b bags: to each WALL (as if it had none)");
         BagsRiver x = Kit.on("wall w 1;house h w 9 0;crest 4 1;gauge 1 1;people 9;rate 9;");
         x.post(4, 2, 0);
         x.hours(1);
@@ -589,7 +589,7 @@ public final class ReckonBoundariesTest {
     }
 
     private static void carpetsThatWouldBeFlooded() {
-        KIT.quote("n of those that are not flooded, not UP, and would be by the greatest crest (FLOOR alone)");
+        KIT.quote("CARPETS of n HOUSES: n of those that are not flooded, not UP, and would be by the greatest crest (FLOOR alone)");
         String street = "wall w 1;house a w 40 4;house b outside 30 5;house c w 20 6;house d outside 10 0;";
         carpets(Kit.on(street + "crest 5 1;"), 10, 20 + 5, 1 + 8);
         carpets(Kit.on(street + "crest 6 1;crest 5 9;"), 10, 20 + 15 + 5, 1 + 2 + 8);
