@@ -613,7 +613,7 @@ public final class PromisesTest {
         KIT.same("in the last HOUR", z.now(0) * 100 + z.lacks(0), 4703);
         KIT.same("the RIVER falls", Kit.on("wall a 2;gauge 0 5;gauge 1 0;").lacks(0), 30);
         BagsRiver r = Kit.on("wall a 1;gauge 0 3;");
-        while (r.now(7) < 2) {
+        for (int i = 0; i < 48 && r.now(7) < 2; i++) {
             r.drawn(1, r.now(0));
         }
         KIT.same("RAIN so far", r.lacks(0), 15);
@@ -864,7 +864,7 @@ public final class PromisesTest {
         KIT.same("in this HOUR", z.when(0), 5);
         BagsRiver r = Kit.on("house a outside 9 3;gauge 40 3;");
         KIT.same("its FLOOR alone", r.when(0), -1);
-        while (r.now(7) == 0) {
+        for (int i = 0; i < 48 && r.now(7) == 0; i++) {
             r.drawn(1, r.now(0));
         }
         KIT.same("RAIN so far", r.when(0), 40);
